@@ -1,0 +1,32 @@
+/** Collects answers that are not as due, and tells them. */
+final class Dues {
+    private int asked = 0;
+    private int wrong = 0;
+
+    void due(String call, long got, long want) {
+        asked++;
+        if (got != want) {
+            wrong++;
+            System.out.println(call + " answered " + got + ", due is " + want);
+        }
+    }
+
+    void holds(String what, boolean so) {
+        asked++;
+        if (!so) {
+            wrong++;
+            System.out.println("does not hold: " + what);
+        }
+    }
+
+    boolean tooMany() {
+        return wrong > 50;
+    }
+
+    void end() {
+        System.out.println(asked + " asked, " + wrong + " not as due");
+        if (wrong != 0 || asked == 0) {
+            System.exit(1);
+        }
+    }
+}
