@@ -19,7 +19,9 @@ public final class ChanceNets {
 
     private final Text text;
     private final Net now;
+    /** What a text tells, till it has told all without a fault. */
     private final Net told;
+    /** The net of now without one line. */
     private final Net less;
     /** For each line, the trees without it. */
     private final long[] rests;
@@ -429,6 +431,7 @@ public final class ChanceNets {
     private static final class Net {
         int nodes;
         int lines;
+        /** For two nodes both ways; 0 where there is no line, and for a node and itself. */
         final int[] widths;
         final int[] lows;
         final int[] highs;
@@ -489,7 +492,7 @@ public final class ChanceNets {
             lines = 0;
             for (int u = 0; u < nodes; u++) {
                 for (int v = u + 1; v < nodes; v++) {
-                    if (widthAt(u, v) != 0 && lines < MOST_LINES) {
+                    if (widths[u * MOST_NODES + v] != 0 && lines < MOST_LINES) {
                         lows[lines] = u;
                         highs[lines] = v;
                         lines++;
@@ -499,9 +502,12 @@ public final class ChanceNets {
         }
 
         int degree(int u) {
+            if (!hasNode(u)) {
+                return 0;
+            }
             int sum = 0;
             for (int v = 0; v < nodes; v++) {
-                sum += widthAt(u, v);
+                sum += widths[u * MOST_NODES + v];
             }
             return sum;
         }
