@@ -1,8 +1,7 @@
 /** Each promise of the document by itself: ordinary inputs, edges, wrong inputs; worked out by hand. */
 public final class PromisesTest {
-    private static final int BAD = -1, STATE = -2, FULL = -3, NONE = -9;
-    /** Widths 2 (0 1), 3 (1 2), 6 (0 2), and a tail 4 (2 3). */
-    private static final String TRIANGLE = "n4;e0 1 2;e1 2 3;e0 2 6;e2 3 4;";
+    private static final int BAD = Nets.BAD, STATE = Nets.STATE, FULL = Nets.FULL, NONE = Nets.NONE;
+    private static final String TRIANGLE = Nets.TRIANGLE;
 
     private final Dues dues = new Dues();
     private int promise;
@@ -46,19 +45,6 @@ public final class PromisesTest {
     private void fraction(String call, long upper, long lower, long wantUpper, long wantLower) {
         due(call + " upper", upper, wantUpper);
         due(call + " lower", lower, wantLower);
-    }
-
-    private static void types(ChanceNets x, String text) {
-        for (int i = 0; i < text.length(); i++) {
-            x.type(text.charAt(i));
-        }
-    }
-
-    private static ChanceNets of(String text) {
-        ChanceNets x = new ChanceNets();
-        types(x, text);
-        x.net();
-        return x;
     }
 
     private void counts(String when, ChanceNets x, int... want) {
@@ -107,33 +93,33 @@ public final class PromisesTest {
 
     private void clear() {
         promise = 3;
-        ChanceNets x = of(TRIANGLE);
-        types(x, "n9");
+        ChanceNets x = Nets.told(TRIANGLE);
+        Nets.types(x, "n9");
         due("clear()", x.clear(), 2);
         due("clear() again", x.clear(), 0);
         due("count(5)", x.count(5), 0);
         due("count(1)", x.count(1), 4);
-        types(x, "n3;");
+        Nets.types(x, "n3;");
         due("net() behind clear()", x.net(), 1);
     }
 
     private void net() {
         promise = 4;
         ChanceNets x = new ChanceNets();
-        types(x, TRIANGLE);
+        Nets.types(x, TRIANGLE);
         due("net()", x.net(), 5);
         counts("as told", x, 4, 4, 15, 1, 0, 0, 0);
         x.cuts(0);
         x.sees(1);
         x.keep(0);
         x.keep(1);
-        types(x, "n6;x");
+        Nets.types(x, "n6;x");
         due("net() with a fault", x.net(), -13);
         counts("behind a fault", x, 4, 3, 13, 1, 1, 4, 1);
         due("back(1) behind a fault", x.back(1), 4);
         x.cuts(0);
         x.clear();
-        types(x, "e1 0 7;");
+        Nets.types(x, "e1 0 7;");
         due("net() without n", x.net(), 1);
         counts("as told anew", x, 2, 1, 7, 1, 0, 0, 0);
         due("undo() as told anew", x.undo(), STATE);
@@ -141,12 +127,12 @@ public final class PromisesTest {
         due("back(1) as told anew", x.back(1), STATE);
         due("net() of no text", x.net(), 0);
         counts("of no text", x, 2, 0, 0, 0, 0, 0, 0);
-        types(x, "   ");
+        Nets.types(x, "   ");
         due("net() of blanks", x.net(), 0);
         due("count(5) behind blanks", x.count(5), 0);
-        types(x, "  n 6  ; e  5 4  9;;");
+        Nets.types(x, "  n 6  ; e  5 4  9;;");
         due("net() with a ; too many", x.net(), -29);
-        types(x, "   ");
+        Nets.types(x, "   ");
         due("the text stays behind a fault", x.count(5), 23);
     }
 
@@ -165,21 +151,21 @@ public final class PromisesTest {
         };
         for (Object[] row : texts) {
             ChanceNets x = new ChanceNets();
-            types(x, (String) row[0]);
+            Nets.types(x, (String) row[0]);
             due("net() of '" + row[0] + "'", x.net(), -10 - (Integer) row[1]);
             due("letters behind it", x.count(5), ((String) row[0]).length());
         }
         ChanceNets x = new ChanceNets();
-        types(x, "n6;e0 1 1;e0 2 1;e0 3 1;e0 4 1;e0 5 1;e1 2 1;e1 3 1;e1 4 1;e1 5 1;e2 3 1;");
+        Nets.types(x, "n6;e0 1 1;e0 2 1;e0 3 1;e0 4 1;e0 5 1;e1 2 1;e1 3 1;e1 4 1;e1 5 1;e2 3 1;");
         due("net() of ten lines", x.net(), 11);
         due("count(1) of ten lines", x.count(1), 10);
-        types(x, "n6;e0 1 1;e0 2 1;e0 3 1;e0 4 1;e0 5 1;e1 2 1;e1 3 1;e1 4 1;e1 5 1;e2 3 1; e2 4");
+        Nets.types(x, "n6;e0 1 1;e0 2 1;e0 3 1;e0 4 1;e0 5 1;e1 2 1;e1 3 1;e1 4 1;e1 5 1;e2 3 1; e2 4");
         due("net() of an eleventh line", x.net(), -10 - 74);
     }
 
     private void line() {
         promise = 5;
-        ChanceNets x = of("n4;e3 2 7;e2 0 5;e3 0 6;e1 0 4;");
+        ChanceNets x = Nets.told("n4;e3 2 7;e2 0 5;e3 0 6;e1 0 4;");
         int[][] want = {{0, 1, 4}, {0, 2, 5}, {0, 3, 6}, {2, 3, 7}};
         for (int l = 0; l < 4; l++) {
             for (int what = 0; what < 3; what++) {
@@ -202,7 +188,7 @@ public final class PromisesTest {
 
     private void width() {
         promise = 6;
-        ChanceNets x = of(TRIANGLE);
+        ChanceNets x = Nets.told(TRIANGLE);
         due("width(0, 1)", x.width(0, 1), 2);
         due("width(1, 0)", x.width(1, 0), 2);
         due("width(0, 3)", x.width(0, 3), 0);
@@ -217,7 +203,7 @@ public final class PromisesTest {
 
     private void lays() {
         promise = 7;
-        ChanceNets x = of("n6;");
+        ChanceNets x = Nets.told("n6;");
         due("lays(0, 0, 1)", x.lays(0, 0, 1), BAD);
         due("lays(0, 6, 1)", x.lays(0, 6, 1), BAD);
         due("lays(-1, 0, 1)", x.lays(-1, 0, 1), BAD);
@@ -241,7 +227,7 @@ public final class PromisesTest {
 
     private void widens() {
         promise = 8;
-        ChanceNets x = of(TRIANGLE);
+        ChanceNets x = Nets.told(TRIANGLE);
         due("widens(1, 9)", x.widens(1, 9), 6);
         due("widens(1, 9) again", x.widens(1, 9), STATE);
         due("widens(1, 1)", x.widens(1, 1), 9);
@@ -256,7 +242,7 @@ public final class PromisesTest {
 
     private void cuts() {
         promise = 9;
-        ChanceNets x = of(TRIANGLE);
+        ChanceNets x = Nets.told(TRIANGLE);
         due("cuts(4)", x.cuts(4), BAD);
         due("cuts(-1)", x.cuts(-1), BAD);
         due("cuts(0)", x.cuts(0), 3);
@@ -272,7 +258,7 @@ public final class PromisesTest {
 
     private void undo() {
         promise = 10;
-        ChanceNets x = of(TRIANGLE);
+        ChanceNets x = Nets.told(TRIANGLE);
         due("undo() of nothing", x.undo(), STATE);
         x.cuts(0);
         x.lays(0, 3, 5);
@@ -301,7 +287,7 @@ public final class PromisesTest {
     }
 
     private void losesOldest() {
-        ChanceNets x = of("n6;");
+        ChanceNets x = Nets.told("n6;");
         for (int v = 1; v < 6; v++) {
             x.lays(0, v, v);
         }
@@ -322,7 +308,7 @@ public final class PromisesTest {
 
     private void hitting() {
         promise = 11;
-        ChanceNets x = of("n3;e0 1 1;e1 2 3;");
+        ChanceNets x = Nets.told("n3;e0 1 1;e1 2 3;");
         fraction("hitting(0, 2)", x.hitting(0, 2, 0), x.hitting(0, 2, 1), 8, 3);
         fraction("hitting(2, 0)", x.hitting(2, 0, 0), x.hitting(2, 0, 1), 8, 1);
         fraction("hitting(1, 2)", x.hitting(1, 2, 0), x.hitting(1, 2, 1), 5, 3);
@@ -339,7 +325,7 @@ public final class PromisesTest {
 
     private void between() {
         promise = 12;
-        ChanceNets x = of("n3;e0 1 1;e1 2 3;");
+        ChanceNets x = Nets.told("n3;e0 1 1;e1 2 3;");
         fraction("COMMUTE 0 2", x.between(0, 2, 0, 0), x.between(0, 2, 0, 1), 32, 3);
         fraction("COMMUTE 2 0", x.between(2, 0, 0, 0), x.between(2, 0, 0, 1), 32, 3);
         fraction("RESISTANCE 0 2", x.between(0, 2, 1, 0), x.between(0, 2, 1, 1), 4, 3);
@@ -358,7 +344,7 @@ public final class PromisesTest {
 
     private void ahead() {
         promise = 13;
-        ChanceNets x = of("n4;e0 1 1;e1 2 3;e1 3 5;");
+        ChanceNets x = Nets.told("n4;e0 1 1;e1 2 3;e1 3 5;");
         fraction("ahead(1, 0, 2)", x.ahead(1, 0, 2, 0), x.ahead(1, 0, 2, 1), 1, 4);
         fraction("ahead(3, 2, 0)", x.ahead(3, 2, 0, 0), x.ahead(3, 2, 0, 1), 3, 4);
         fraction("ahead(0, 0, 2)", x.ahead(0, 0, 2, 0), x.ahead(0, 0, 2, 1), 1, 1);
@@ -376,7 +362,7 @@ public final class PromisesTest {
 
     private void walks() {
         promise = 14;
-        ChanceNets x = of("n3;e0 1 2;e1 2 3;");
+        ChanceNets x = Nets.told("n3;e0 1 2;e1 2 3;");
         long[][] want = {{1, 1, 0}, {2, 0, 0}, {10, 4, 6}, {26, 0, 18}, {130, 52, 114}, {338, 0, 306}};
         for (int t = 0; t < want.length; t++) {
             for (int kind = 0; kind < 3; kind++) {
@@ -396,25 +382,25 @@ public final class PromisesTest {
         due("walks(0, 1, 0) of a node alone", x.walks(0, 1, 0), 0);
         due("walks(1, 2, 1) where it does not hang", x.walks(1, 2, 1), 9);
         due("walks(1, 6, 2) where it does not hang", x.walks(1, 6, 2), 0);
-        ChanceNets star = of("n6;e0 1 9;e0 2 9;e0 3 9;e0 4 9;e0 5 9;");
+        ChanceNets star = Nets.told("n6;e0 1 9;e0 2 9;e0 3 9;e0 4 9;e0 5 9;");
         due("walks(0, 6, 0) of a wide star", star.walks(0, 6, 0), 405L * 405 * 405);
     }
 
     private void trees() {
         promise = 15;
         due("trees() of a new object", new ChanceNets().trees(), 0);
-        ChanceNets x = of(TRIANGLE);
+        ChanceNets x = Nets.told(TRIANGLE);
         due("trees()", x.trees(), 4 * (2 * 3 + 2 * 6 + 3 * 6));
         x.cuts(3);
         due("trees() where it does not hang", x.trees(), 0);
-        due("trees() of a node alone at first", of("n4;e1 2 1;e2 3 1;e1 3 1;").trees(), 0);
-        due("trees() of a path", of("n6;e0 1 9;e1 2 9;e2 3 9;e3 4 9;e4 5 9;").trees(), 59049);
-        due("trees() of two pairs", of("n4;e0 1 9;e2 3 9;").trees(), 0);
+        due("trees() of a node alone at first", Nets.told("n4;e1 2 1;e2 3 1;e1 3 1;").trees(), 0);
+        due("trees() of a path", Nets.told("n6;e0 1 9;e1 2 9;e2 3 9;e3 4 9;e4 5 9;").trees(), 59049);
+        due("trees() of two pairs", Nets.told("n4;e0 1 9;e2 3 9;").trees(), 0);
     }
 
     private void share() {
         promise = 16;
-        ChanceNets x = of(TRIANGLE);
+        ChanceNets x = Nets.told(TRIANGLE);
         fraction("share(0)", x.share(0, 0), x.share(0, 1), 1, 2);
         fraction("share(1)", x.share(1, 0), x.share(1, 1), 5, 6);
         fraction("share(2)", x.share(2, 0), x.share(2, 1), 2, 3);
@@ -430,14 +416,14 @@ public final class PromisesTest {
 
     private void rank() {
         promise = 17;
-        ChanceNets x = of(TRIANGLE);
+        ChanceNets x = Nets.told(TRIANGLE);
         int[] want = {3, 1, 2, 0, NONE};
         for (int k = 0; k < want.length; k++) {
             due("rank(" + k + ")", x.rank(k), want[k]);
         }
         due("rank(-1)", x.rank(-1), BAD);
-        due("rank(0) of the lowest line", of("n3;e0 1 9;e1 2 1;e0 2 1;").rank(0), 0);
-        due("rank(1) of the lowest like one", of("n3;e0 1 9;e1 2 1;e0 2 1;").rank(1), 1);
+        due("rank(0) of the lowest line", Nets.told("n3;e0 1 9;e1 2 1;e0 2 1;").rank(0), 0);
+        due("rank(1) of the lowest like one", Nets.told("n3;e0 1 9;e1 2 1;e0 2 1;").rank(1), 1);
         due("rank(MAX)", x.rank(Integer.MAX_VALUE), NONE);
         x.widens(2, 6);
         due("rank(1) of like ones", x.rank(1), 1);
@@ -450,7 +436,7 @@ public final class PromisesTest {
 
     private void reduced() {
         promise = 18;
-        ChanceNets x = of(TRIANGLE);
+        ChanceNets x = Nets.told(TRIANGLE);
         due("reduced(0, 1, 0)", x.reduced(0, 1, 0), 1);
         fraction("reduced(0, 1)", x.reduced(0, 1, 1), x.reduced(0, 1, 2), 1, 4);
         due("reduced(3, 1, 0)", x.reduced(3, 1, 0), 1);
@@ -464,10 +450,10 @@ public final class PromisesTest {
         x.cuts(3);
         due("reduced(0, 1, 0) where it does not hang", x.reduced(0, 1, 0), STATE);
         due("reduced(0, 0, 0) where it does not hang", x.reduced(0, 0, 0), BAD);
-        ChanceNets path = of("n6;e0 3 2;e3 1 4;e1 5 8;e5 2 1;e2 4 1;");
+        ChanceNets path = Nets.told("n6;e0 3 2;e3 1 4;e1 5 8;e5 2 1;e2 4 1;");
         fraction("reduced(0, 4) of a path", path.reduced(0, 4, 1), path.reduced(0, 4, 2), 23, 8);
         due("reduced(5, 1, 0) of a path", path.reduced(5, 1, 0), 1);
-        ChanceNets four = of("n4;e0 1 1;e0 2 1;e0 3 1;e1 2 1;e1 3 1;e2 3 1;");
+        ChanceNets four = Nets.told("n4;e0 1 1;e0 2 1;e0 3 1;e1 2 1;e1 3 1;e2 3 1;");
         due("reduced(0, 1, 0) of all four nodes", four.reduced(0, 1, 0), 6);
         due("reduced(0, 1, 1) of all four nodes", four.reduced(0, 1, 1), NONE);
         due("reduced(0, 1, 2) of all four nodes", four.reduced(0, 1, 2), NONE);
@@ -475,13 +461,13 @@ public final class PromisesTest {
 
     private void worst() {
         promise = 19;
-        ChanceNets x = of(TRIANGLE);
+        ChanceNets x = Nets.told(TRIANGLE);
         due("worst(1, 0)", x.worst(1, 0), 1);
         due("worst(0, 2)", x.worst(0, 2), 1);
-        due("worst of the line 0 1", of("n3;e0 1 9;e1 2 1;e0 2 1;").worst(0, 1), 0);
+        due("worst of the line 0 1", Nets.told("n3;e0 1 9;e1 2 1;e0 2 1;").worst(0, 1), 0);
         due("worst(0, 1)", x.worst(0, 1), 2);
-        due("worst of like ones", of("n4;e0 1 1;e0 2 1;e1 3 1;e2 3 1;").worst(0, 3), 2);
-        due("worst of a path", of("n3;e0 1 1;e1 2 1;").worst(0, 2), NONE);
+        due("worst of like ones", Nets.told("n4;e0 1 1;e0 2 1;e1 3 1;e2 3 1;").worst(0, 3), 2);
+        due("worst of a path", Nets.told("n3;e0 1 1;e1 2 1;").worst(0, 2), NONE);
         due("worst(0, 0)", x.worst(0, 0), BAD);
         due("worst(4, 0)", x.worst(4, 0), BAD);
         due("worst(0, -1)", x.worst(0, -1), BAD);
@@ -493,7 +479,7 @@ public final class PromisesTest {
 
     private void odds() {
         promise = 20;
-        ChanceNets x = of("n3;e0 1 5;e1 2 7;e0 2 9;");
+        ChanceNets x = Nets.told("n3;e0 1 5;e1 2 7;e0 2 9;");
         fraction("odds(0)", x.odds(0, 0), x.odds(0, 1), 1, 1);
         fraction("odds(10)", x.odds(10, 0), x.odds(10, 1), 0, 1);
         fraction("odds(1)", x.odds(1, 0), x.odds(1, 1), 243, 250);
@@ -510,7 +496,7 @@ public final class PromisesTest {
 
     private void sees() {
         promise = 21;
-        ChanceNets x = of(TRIANGLE);
+        ChanceNets x = Nets.told(TRIANGLE);
         due("sees(-1)", x.sees(-1), BAD);
         due("sees(MIN)", x.sees(Long.MIN_VALUE), BAD);
         for (int i = 1; i <= 6; i++) {
@@ -524,7 +510,7 @@ public final class PromisesTest {
 
     private void forget() {
         promise = 22;
-        ChanceNets x = of(TRIANGLE);
+        ChanceNets x = Nets.told(TRIANGLE);
         due("forget() of nothing", x.forget(), 0);
         x.sees(0);
         x.sees(1);
@@ -537,7 +523,7 @@ public final class PromisesTest {
 
     private void unseen() {
         promise = 23;
-        ChanceNets x = of(TRIANGLE);
+        ChanceNets x = Nets.told(TRIANGLE);
         due("unseen() of nothing seen", x.unseen(), 15);
         x.sees(4 * 2 * 3);
         due("unseen() of the line 0 2", x.unseen(), 2);
@@ -562,7 +548,7 @@ public final class PromisesTest {
 
     private void keep() {
         promise = 24;
-        ChanceNets x = of(TRIANGLE);
+        ChanceNets x = Nets.told(TRIANGLE);
         due("keep(-1)", x.keep(-1), BAD);
         due("keep(2)", x.keep(2), BAD);
         x.cuts(0);
@@ -578,7 +564,7 @@ public final class PromisesTest {
 
     private void back() {
         promise = 25;
-        ChanceNets x = of(TRIANGLE);
+        ChanceNets x = Nets.told(TRIANGLE);
         due("back(0) of none", x.back(0), STATE);
         due("back(2)", x.back(2), BAD);
         due("back(-1)", x.back(-1), BAD);
@@ -601,11 +587,11 @@ public final class PromisesTest {
 
     private void count() {
         promise = 26;
-        ChanceNets x = of("n5;e0 1 2;e2 3 4;");
+        ChanceNets x = Nets.told("n5;e0 1 2;e2 3 4;");
         x.lays(4, 0, 6);
         x.sees(8);
         x.sees(8);
-        types(x, "ne;");
+        Nets.types(x, "ne;");
         counts("of all", x, 5, 3, 12, 0, 2, 3, 1);
         due("count(7)", x.count(7), BAD);
         due("count(-1)", x.count(-1), BAD);
