@@ -1,16 +1,13 @@
-import java.io.IOException;
 import java.lang.reflect.Constructor;
 import java.lang.reflect.Field;
 import java.lang.reflect.Method;
 import java.lang.reflect.Modifier;
-import java.nio.file.Files;
-import java.nio.file.Path;
+import java.util.Map;
 import java.util.Set;
+import java.util.TreeMap;
 import java.util.TreeSet;
-import java.util.regex.Matcher;
-import java.util.regex.Pattern;
 
-/** The face of the class, and those rules of LANGUAGE.md that can be seen from outside or by words. */
+/** The public face, and those rules of LANGUAGE.md that can be seen by reflection. */
 public final class FaceTest {
     private static final Set<String> FACE = Set.of(
         "int type(int)", "int clear()", "int net()", "int line(int,int)", "int width(int,int)",
@@ -19,84 +16,133 @@ public final class FaceTest {
         "long walks(int,int,int)", "long trees()", "long share(int,int)", "int rank(int)",
         "long reduced(int,int,int)", "int worst(int,int)", "long odds(int,int)", "int sees(long)",
         "int forget()", "int unseen()", "int keep(int)", "int back(int)", "int count(int)");
+    private static final Map<String, Integer> CONSTANTS = Map.of("BAD", -1, "STATE", -2, "FULL", -3, "NONE", -9);
+    private static final Set<Class<?>> STATIC_TYPES = Set.of(int.class, long.class, boolean.class, char.class,
+        String.class, int[].class, long[].class, char[].class, byte[].class);
+    private static final int MOST_CLASSES = 12;
+    private static final int MOST_FIELDS = 20;
+    private static final int MOST_PARAMETERS = 7;
 
-    private static final Dues DUES = new Dues();
+    private final Dues dues = new Dues();
 
-    public static void main(String[] args) throws IOException {
+    public static void main(String[] args) throws IllegalAccessException {
+        FaceTest t = new FaceTest();
+        t.theClass();
+        t.constants();
+        t.constructor();
+        t.methods();
+        t.privateNames();
+        t.classesInside();
+        for (Class<?> c : ChanceNets.class.getNestMembers()) {
+            t.staticFields(c);
+            t.sizes(c);
+        }
+        t.dues.end();
+    }
+
+    private void theClass() {
+        dues.about("The public face, public final class ChanceNets");
         Class<?> c = ChanceNets.class;
-        DUES.holds("public final", Modifier.isPublic(c.getModifiers()) && Modifier.isFinal(c.getModifiers()));
-        seesMethods(c);
-        seesFields(c);
-        DUES.due("constructors", c.getDeclaredConstructors().length, 1);
-        for (Constructor<?> k : c.getDeclaredConstructors()) {
-            DUES.holds("public constructor without arguments",
-                Modifier.isPublic(k.getModifiers()) && k.getParameterCount() == 0);
-        }
-        Class<?>[] inside = c.getDeclaredClasses();
-        DUES.holds("twelve classes at most", inside.length < 12);
-        for (Class<?> d : inside) {
-            seesInside(d);
-        }
-        seesSource(Files.readString(Path.of(System.getProperty("chancenets.source",
-            "src/main/java/ChanceNets.java"))));
-        DUES.end();
+        dues.holds("public", Modifier.isPublic(c.getModifiers()));
+        dues.holds("final", Modifier.isFinal(c.getModifiers()));
+        dues.holds("without a package", c.getPackageName().isEmpty());
+        dues.holds("of no other class", c.getSuperclass() == Object.class && c.getInterfaces().length == 0);
     }
 
-    private static void seesMethods(Class<?> c) {
-        Set<String> found = new TreeSet<>();
-        Set<String> names = new TreeSet<>();
-        for (Method m : c.getDeclaredMethods()) {
-            if (Modifier.isPrivate(m.getModifiers())) continue;
-            StringBuilder s = new StringBuilder(m.getReturnType() + " " + m.getName() + "(");
-            for (Class<?> p : m.getParameterTypes()) {
-                s.append(s.charAt(s.length() - 1) == '(' ? "" : ",").append(p);
+    private void constants() throws IllegalAccessException {
+        dues.about("The public face, public static final int BAD = -1, STATE = -2, FULL = -3, NONE = -9");
+        Map<String, Integer> found = new TreeMap<>();
+        for (Field f : ChanceNets.class.getDeclaredFields()) {
+            if (Modifier.isPrivate(f.getModifiers())) {
+                continue;
             }
-            found.add(s.append(")").toString());
-            names.add(m.getName());
-            DUES.holds(s + " is public", Modifier.isPublic(m.getModifiers()));
+            int all = Modifier.PUBLIC | Modifier.STATIC | Modifier.FINAL;
+            dues.due("what stands ahead of " + f.getName(), f.getModifiers(), all);
+            dues.holds(f.getName() + " is an int", f.getType() == int.class);
+            found.put(f.getName(), f.getInt(null));
         }
-        DUES.holds("the methods are " + new TreeSet<>(FACE) + ", not " + found, found.equals(FACE));
-        for (Method m : c.getDeclaredMethods()) {
-            DUES.holds("private " + m.getName() + " has a name of its own",
-                !Modifier.isPrivate(m.getModifiers()) || !names.contains(m.getName()));
+        dues.holds("the constants are " + CONSTANTS + ", not " + found, found.equals(CONSTANTS));
+    }
+
+    private void constructor() {
+        dues.about("The public face, public ChanceNets()");
+        Constructor<?>[] all = ChanceNets.class.getDeclaredConstructors();
+        dues.due("constructors", all.length, 1);
+        for (Constructor<?> k : all) {
+            dues.due("what stands ahead of it", k.getModifiers(), Modifier.PUBLIC);
+            dues.due("its arguments", k.getParameterCount(), 0);
         }
     }
 
-    private static void seesFields(Class<?> c) {
+    private static String told(Method m) {
+        StringBuilder s = new StringBuilder(m.getReturnType() + " " + m.getName() + "(");
+        for (Class<?> p : m.getParameterTypes()) {
+            s.append(s.charAt(s.length() - 1) == '(' ? "" : ",").append(p);
+        }
+        return s.append(")").toString();
+    }
+
+    private void methods() {
+        dues.about("The public face, the methods");
+        Set<String> found = new TreeSet<>();
+        for (Method m : ChanceNets.class.getDeclaredMethods()) {
+            if (!Modifier.isPrivate(m.getModifiers())) {
+                found.add(told(m));
+                dues.due("what stands ahead of " + told(m), m.getModifiers(), Modifier.PUBLIC);
+                dues.due("exceptions that " + told(m) + " names", m.getExceptionTypes().length, 0);
+            }
+        }
+        dues.holds("the methods are " + new TreeSet<>(FACE) + ", not " + found, found.equals(FACE));
+    }
+
+    private void privateNames() {
+        dues.about("LANGUAGE.md 1, no private method bears the name of a public one");
         Set<String> open = new TreeSet<>();
+        for (String method : FACE) {
+            open.add(method.substring(method.indexOf(' ') + 1, method.indexOf('(')));
+        }
+        for (Class<?> c : ChanceNets.class.getNestMembers()) {
+            for (Method m : c.getDeclaredMethods()) {
+                dues.holds(c.getName() + "." + m.getName() + " has a name of its own",
+                    c == ChanceNets.class && Modifier.isPublic(m.getModifiers()) || !open.contains(m.getName()));
+            }
+        }
+    }
+
+    private void classesInside() {
+        dues.about("LANGUAGE.md 2, classes inside: static, none local or without a name");
+        Class<?>[] inside = ChanceNets.class.getDeclaredClasses();
+        dues.due("classes of the file", ChanceNets.class.getNestMembers().length, inside.length + 1);
+        dues.holds("classes at most", inside.length < MOST_CLASSES);
+        for (Class<?> c : inside) {
+            int m = c.getModifiers();
+            dues.holds(c + " is static", Modifier.isStatic(m));
+            dues.holds(c + " is not open", !Modifier.isPublic(m) && !Modifier.isProtected(m));
+        }
+    }
+
+    private void staticFields(Class<?> c) {
+        dues.about("LANGUAGE.md 5, static fields are final constants");
         for (Field f : c.getDeclaredFields()) {
-            int m = f.getModifiers();
-            if (!Modifier.isPrivate(m)) open.add(f.getName());
-            DUES.holds("static " + f.getName() + " is final", !Modifier.isStatic(m) || Modifier.isFinal(m));
-        }
-        DUES.holds("the constants", open.equals(Set.of("BAD", "STATE", "FULL", "NONE")));
-    }
-
-    private static void seesInside(Class<?> d) {
-        DUES.holds(d + " is static", Modifier.isStatic(d.getModifiers()));
-        DUES.holds(d + " is not public", !Modifier.isPublic(d.getModifiers())
-            && !Modifier.isProtected(d.getModifiers()));
-        DUES.holds(d + " has twenty fields at most", d.getDeclaredFields().length <= 20);
-        for (Field f : d.getDeclaredFields()) {
-            DUES.holds("static " + f + " is final",
-                !Modifier.isStatic(f.getModifiers()) || Modifier.isFinal(f.getModifiers()));
-        }
-        for (Method m : d.getDeclaredMethods()) {
-            DUES.holds(m + " takes seven at most", m.getParameterCount() <= 7);
+            if (Modifier.isStatic(f.getModifiers())) {
+                dues.holds(f + " is final", Modifier.isFinal(f.getModifiers()));
+                dues.holds(f + " is of a type that may be", STATIC_TYPES.contains(f.getType()));
+            }
         }
     }
 
-    private static void seesSource(String source) {
-        String code = source.replaceAll("(?s)/\\*.*?\\*/", "").replaceAll("//[^\n]*", "");
-        Matcher words = Pattern.compile("\\b(throw|throws|try|catch|synchronized|assert|protected|package"
-            + "|volatile|native|double|float)\\b|->|::|@").matcher(code);
-        while (words.find()) {
-            DUES.holds("'" + words.group() + "' does not stand in the source", false);
+    private void sizes(Class<?> c) {
+        dues.about("LANGUAGE.md 11, seven parameters, twenty fields at most");
+        int fields = 0;
+        for (Field f : c.getDeclaredFields()) {
+            fields += Modifier.isStatic(f.getModifiers()) ? 0 : 1;
         }
-        Matcher imports = Pattern.compile("import ([^;]*);").matcher(code);
-        while (imports.find()) {
-            DUES.holds("import " + imports.group(1) + " is one of the language's",
-                Set.of("java.util.Arrays", "java.util.List", "java.util.ArrayList").contains(imports.group(1)));
+        dues.holds(c + " has " + fields + " fields", fields <= MOST_FIELDS);
+        for (Method m : c.getDeclaredMethods()) {
+            dues.holds(m + " takes so many", m.getParameterCount() <= MOST_PARAMETERS);
+        }
+        for (Constructor<?> k : c.getDeclaredConstructors()) {
+            dues.holds(k + " takes so many", k.getParameterCount() <= MOST_PARAMETERS);
         }
     }
 }

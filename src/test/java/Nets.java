@@ -68,15 +68,20 @@ final class Nets {
         }
     }
 
-    /** What calls show of the lines, and which of them are UNSEEN; nothing is changed. */
-    static String lines(ChanceNets x) {
+    /** Widths of all pairs of nodes; nothing is changed. */
+    static String widths(ChanceNets x) {
         StringBuilder s = new StringBuilder();
         for (int u = 0; u < MOST_NODES; u++) {
             for (int v = u + 1; v < MOST_NODES; v++) {
                 s.append(x.width(u, v)).append(' ');
             }
         }
-        return s.append("unseen ").append(x.unseen()).append("; ").toString();
+        return s.toString();
+    }
+
+    /** What calls show of the lines, and which of them are UNSEEN; nothing is changed. */
+    static String lines(ChanceNets x) {
+        return widths(x) + "unseen " + x.unseen() + "; ";
     }
 
     static String counts(ChanceNets x) {

@@ -175,7 +175,7 @@ final class PlainNet {
 
     // ---- walks
 
-    /** Whether lines lead from node 0 to each other one. */
+    /** Whether these lines alone lead from each node to each other one. */
     private boolean hangs(Iterable<Integer> some) {
         int[] color = new int[nodes];
         for (int u = 0; u < nodes; u++) color[u] = u;
@@ -270,7 +270,7 @@ final class PlainNet {
         return some;
     }
 
-    /** The trees whose lines are not all out of these bits' ones. */
+    /** The trees that have all lines of these bits. */
     private long treesWith(int needed) {
         long sum = 0;
         for (int bits = 0; bits < 1 << lines.size(); bits++) {
