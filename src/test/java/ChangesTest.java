@@ -80,7 +80,8 @@ public final class ChangesTest {
     private static String look(ChanceNets x, Part part) {
         switch (part) {
             case TEXT: return x.count(5) + " letters, net " + x.net() + ": " + Nets.lines(x) + x.count(5);
-            case LINES: return x.count(0) + " " + x.count(1) + " " + x.count(2) + " " + x.count(3) + ": " + Nets.widths(x);
+            case LINES: return x.count(0) + " " + x.count(1) + " " + x.count(2) + " " + x.count(3) + ": "
+                + Nets.widths(x);
             case PAST: return past(x);
             case SEEN: return seen(x);
             case IMAGE_0: return x.back(0) + ": " + Nets.widths(x);
@@ -209,7 +210,8 @@ public final class ChangesTest {
                 boolean hangs = x.count(3) == 1;
                 dues.holds(name + " is not refused", done[i].answer(x) >= 0);
                 dues.holds("undo() behind " + name, x.undo() >= 0);
-                dues.same("all behind undo() of " + name, Nets.everything(x), Nets.everything(hangs ? busy() : parted()));
+                dues.same("all behind undo() of " + name, Nets.everything(x),
+                    Nets.everything(hangs ? busy() : parted()));
             }
         }
     }

@@ -71,7 +71,8 @@ public final class ReadmeTest {
         Path folder = Files.createTempDirectory("readme");
         try {
             JavaCompiler compiler = ToolProvider.getSystemJavaCompiler();
-            JavaFileObject file = new SimpleJavaFileObject(URI.create("string:///Examples.java"), JavaFileObject.Kind.SOURCE) {
+            URI name = URI.create("string:///Examples.java");
+            JavaFileObject file = new SimpleJavaFileObject(name, JavaFileObject.Kind.SOURCE) {
                 @Override
                 public CharSequence getCharContent(boolean ignored) {
                     return source;

@@ -94,7 +94,7 @@ public final class ShapesTest {
         losses(x, name);
     }
 
-    /** A line's SHARE is its width times the RESISTANCE of its nodes, and all SHARES make as many as a tree has lines. */
+    /** SHARE is a line's width times the RESISTANCE of its nodes; all together are as many as a tree has lines. */
     private void shares(ChanceNets x, int nodes, String name) {
         dues.about("Terms, SHARE of a LINE; RANK: LINES by SHARE");
         Fraction sum = Fraction.ZERO;
